@@ -1,0 +1,198 @@
+/** Promises 1 to 4 and 15: a new object, init, setWall, putItem and at. */
+public final class LandTest {
+    private static final int LEAST = Integer.MIN_VALUE;
+    private static final int GREATEST = Integer.MAX_VALUE;
+    private static final Check CHECK = new Check();
+
+    public static void main(String[] args) {
+        newWorldIsEmpty();
+        sidesAreBounded();
+        numbersAreBounded();
+        initPutsAllBack();
+        initPutsTheTurnBack();
+        wallsComeAndGo();
+        noWallOutsideOrOnRobot();
+        itemsUpToNinetyNine();
+        noItemOutsideOrOnWall();
+        squaresShowRobots();
+        CHECK.end("LandTest");
+    }
+
+    private static void newWorldIsEmpty() {
+        RobotWorld world = new RobotWorld(3, 2, 2, 4, 2);
+        CHECK.same("new now", world.now(), 0);
+        for (int y = -1; y <= 2; y++) {
+            for (int x = -1; x <= 3; x++) {
+                boolean inside = x >= 0 && x < 3 && y >= 0 && y < 2;
+                CHECK.same("new at " + x + " " + y, world.at(x, y), inside ? 0 : -2);
+            }
+        }
+        CHECK.same("new state 0", world.robotState(0), 0);
+        CHECK.same("new state 1", world.robotState(1), 0);
+        CHECK.same("new state 2", world.robotState(2), RobotWorld.NONE);
+        CHECK.same("new tick", world.tick(), RobotWorld.NONE);
+    }
+
+    private static void sidesAreBounded() {
+        int[] given = {LEAST, -1, 0, 1, 2, 31, 32, 33, GREATEST};
+        int[] due = {1, 1, 1, 1, 2, 31, 32, 32, 32};
+        for (int i = 0; i < given.length; i++) {
+            RobotWorld wide = new RobotWorld(given[i], 1, 1, 1, 1);
+            CHECK.same("east edge of " + given[i], wide.at(due[i] - 1, 0), 0);
+            CHECK.same("behind the east edge of " + given[i], wide.at(due[i], 0), -2);
+            CHECK.same("south edge where h is 1", wide.at(0, 1), -2);
+            RobotWorld high = new RobotWorld(1, given[i], 1, 1, 1);
+            CHECK.same("south edge of " + given[i], high.at(0, due[i] - 1), 0);
+            CHECK.same("behind the south edge of " + given[i], high.at(0, due[i]), -2);
+            CHECK.same("east edge where w is 1", high.at(1, 0), -2);
+        }
+    }
+
+    private static void numbersAreBounded() {
+        int[] given = {LEAST, 0, 1, 7, 8, 9, 99, 100, 101, GREATEST};
+        int[] robots = {1, 1, 1, 7, 8, 8, 8, 8, 8, 8};
+        int[] words = {1, 1, 1, 7, 8, 9, 99, 100, 100, 100};
+        int[] mails = {1, 1, 1, 7, 8, 9, 16, 16, 16, 16};
+        for (int i = 0; i < given.length; i++) {
+            CHECK.same("most " + given[i], robotsOf(new RobotWorld(9, 1, given[i], 1, 1)), robots[i]);
+            CHECK.same("longest " + given[i], wordsOf(new RobotWorld(1, 1, 1, given[i], 1)), words[i]);
+            CHECK.same("mails " + given[i], mailsOf(new RobotWorld(1, 1, 1, 9, given[i])), mails[i]);
+        }
+        CHECK.same("mails 15", mailsOf(new RobotWorld(1, 1, 1, 9, 15)), 15);
+        CHECK.same("mails 17", mailsOf(new RobotWorld(1, 1, 1, 9, 17)), 16);
+    }
+
+    private static int robotsOf(RobotWorld world) {
+        int count = 0;
+        while (count < 9 && world.spawn(count, 0) == count) {
+            count++;
+        }
+        CHECK.same("state behind the last", world.robotState(count), RobotWorld.NONE);
+        CHECK.same("state of the last", world.robotState(count - 1), Words.NEW);
+        return count;
+    }
+
+    private static int wordsOf(RobotWorld world) {
+        int id = world.spawn(0, 0);
+        int count = 0;
+        while (count < 200 && world.load(id, count)) {
+            count++;
+        }
+        CHECK.same("length", world.reg(id, Words.LENGTH), count);
+        return count;
+    }
+
+    /** A robot that sends itself numbers until its box is full. */
+    private static int mailsOf(RobotWorld world) {
+        int id = Words.start(world, 0, 0, Words.word(Words.NUMBER, 0, 0),
+                Words.word(Words.SEND, 0, 1), Words.word(Words.JUMP_NOT_ZERO, 0, 0, 0));
+        world.runTicks(200);
+        CHECK.same("it went on behind the full box", world.robotState(id), Words.FAILED);
+        CHECK.same("sent into the full box", world.reg(id, 0), 0);
+        return world.reg(id, Words.MAILS);
+    }
+
+    private static void initPutsAllBack() {
+        RobotWorld world = new RobotWorld(3, 2, 2, 4, 2);
+        world.setWall(0, 0, true);
+        world.putItem(1, 1);
+        int id = Words.start(world, 1, 0, Words.set(3, 5), Words.word(Words.SLEEP, 3, 0));
+        world.pathLength(1, 0, 2, 1);
+        world.runTicks(7);
+        world.setClock(-9);
+        world.init();
+        CHECK.same("now after init", world.now(), 0);
+        for (int i = 0; i < 6; i++) {
+            CHECK.same("square after init", world.at(i % 3, i / 3), 0);
+        }
+        CHECK.same("state after init", world.robotState(id), Words.ABSENT);
+        CHECK.same("x after init", world.robotX(id), RobotWorld.NONE);
+        for (int r = 0; r <= 13; r++) {
+            CHECK.same("reg after init " + r, world.reg(id, r), 0);
+        }
+        CHECK.same("way over the old wall", world.pathLength(0, 0, 2, 1), 3);
+        CHECK.same("spawn after init", world.spawn(2, 1), 0);
+        for (int r = 0; r <= 13; r++) {
+            CHECK.same("reg of the first after init " + r, world.reg(0, r), 0);
+        }
+    }
+
+    private static void initPutsTheTurnBack() {
+        RobotWorld world = new RobotWorld(3, 1, 3, 4, 2);
+        int[] forEver = {Words.word(Words.JUMP, 0, 0, 0)};
+        for (int x = 0; x < 3; x++) {
+            Words.start(world, x, 0, forEver);
+        }
+        CHECK.same("first turn", world.tick(), 0);
+        CHECK.same("second turn", world.tick(), 1);
+        world.init();
+        for (int x = 0; x < 3; x++) {
+            Words.start(world, x, 0, forEver);
+        }
+        CHECK.same("first turn after init", world.tick(), 0);
+    }
+
+    private static void wallsComeAndGo() {
+        RobotWorld world = new RobotWorld(2, 2, 1, 1, 1);
+        world.putItem(1, 0);
+        CHECK.yes("no wall goes", world.setWall(1, 0, false));
+        CHECK.same("items stay where no wall was", world.at(1, 0), 1);
+        CHECK.yes("a wall comes", world.setWall(1, 0, true));
+        CHECK.same("wall", world.at(1, 0), -1);
+        CHECK.yes("a wall comes again", world.setWall(1, 0, true));
+        CHECK.same("wall still", world.at(1, 0), -1);
+        CHECK.yes("a wall goes", world.setWall(1, 0, false));
+        CHECK.same("its items are gone", world.at(1, 0), 0);
+        CHECK.same("other squares stay", world.at(0, 1), 0);
+    }
+
+    private static void noWallOutsideOrOnRobot() {
+        RobotWorld world = new RobotWorld(2, 3, 1, 1, 1);
+        int[][] outside = {{-1, 0}, {0, -1}, {2, 0}, {0, 3}, {2, 2}, {GREATEST, 0}, {0, LEAST}};
+        for (int[] square : outside) {
+            CHECK.no("wall outside", world.setWall(square[0], square[1], true));
+            CHECK.no("no wall outside", world.setWall(square[0], square[1], false));
+        }
+        CHECK.yes("wall in the corner", world.setWall(1, 2, true));
+        world.spawn(1, 1);
+        world.putItem(1, 1);
+        CHECK.no("wall on a robot", world.setWall(1, 1, true));
+        CHECK.no("no wall on a robot", world.setWall(1, 1, false));
+        CHECK.same("the robot's square stays", world.at(1, 1), 257);
+        world.kill(0);
+        CHECK.yes("wall where a robot was", world.setWall(1, 1, true));
+    }
+
+    private static void itemsUpToNinetyNine() {
+        RobotWorld world = new RobotWorld(2, 1, 1, 1, 1);
+        world.spawn(1, 0);
+        for (int i = 1; i <= 99; i++) {
+            CHECK.yes("item " + i, world.putItem(1, 0));
+        }
+        CHECK.no("item 100", world.putItem(1, 0));
+        CHECK.same("99 items and robot 0", world.at(1, 0), 99 + 256);
+        CHECK.same("no items beside", world.at(0, 0), 0);
+    }
+
+    private static void noItemOutsideOrOnWall() {
+        RobotWorld world = new RobotWorld(2, 3, 1, 1, 1);
+        int[][] outside = {{-1, 0}, {0, -1}, {2, 0}, {0, 3}, {GREATEST, GREATEST}, {LEAST, 0}};
+        for (int[] square : outside) {
+            CHECK.no("item outside", world.putItem(square[0], square[1]));
+        }
+        world.setWall(0, 1, true);
+        CHECK.no("item on a wall", world.putItem(0, 1));
+        CHECK.same("the wall stays", world.at(0, 1), -1);
+    }
+
+    private static void squaresShowRobots() {
+        RobotWorld world = new RobotWorld(8, 1, 8, 1, 1);
+        for (int x = 0; x < 8; x++) {
+            world.spawn(x, 0);
+            world.putItem(x, 0);
+            CHECK.same("robot " + x, world.at(x, 0), 1 + 256 * (x + 1));
+        }
+        CHECK.same("outside west", world.at(-1, 0), -2);
+        CHECK.same("outside far", world.at(LEAST, GREATEST), -2);
+    }
+}

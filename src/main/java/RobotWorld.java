@@ -504,7 +504,8 @@ public final class RobotWorld {
                 for (int direction = 0; direction < DIRECTIONS; direction++) {
                     int nextX = fromX + EAST_BY[direction];
                     int nextY = fromY + SOUTH_BY[direction];
-                    if (isOpen(nextX, nextY) && stepsOf(nextX, nextY) == UNREACHED && queued < queue.length) {
+                    if (isOpen(nextX, nextY) && queued < queue.length
+                            && steps[nextY * width + nextX] == UNREACHED) {
                         steps[nextY * width + nextX] = further;
                         queue[queued] = nextY << X_BITS | nextX;
                         queued++;

@@ -1,0 +1,207 @@
+import java.util.Random;
+
+/** Long random runs of calls, each answer held against SlowWorld's; the seeds are fixed. */
+public final class ModelTest {
+    private static final int RUNS = 3000;
+    private static final int CALLS = 512;
+    private static final int[] ODD = {-1, -2, 8, 9, 32, 99, 100, 10001, 1 << 16, Integer.MAX_VALUE,
+        Integer.MIN_VALUE, Integer.MIN_VALUE + 1, Integer.MAX_VALUE - 1};
+
+    private final Check check = new Check();
+    private Random random;
+    private RobotWorld world;
+    private SlowWorld model;
+    private int w;
+    private int h;
+    private int most;
+    private String run;
+
+    public static void main(String[] args) {
+        ModelTest test = new ModelTest();
+        for (int seed = 0; seed < RUNS && test.check.allRight(); seed++) {
+            test.oneRun(seed);
+        }
+        test.check.end("ModelTest");
+    }
+
+    private void oneRun(int seed) {
+        random = new Random(seed);
+        w = seed % 50 == 0 ? size(32) : size(6);
+        h = seed % 50 == 0 ? size(32) : size(5);
+        most = size(8);
+        int longest = random.nextInt(4) == 0 ? size(100) : 10 + random.nextInt(20);
+        int mails = size(random.nextBoolean() ? 3 : 16);
+        run = "seed " + seed + ": ";
+        world = new RobotWorld(w, h, most, longest, mails);
+        model = new SlowWorld(w, h, most, longest, mails);
+        buildLand();
+        for (int i = 0; i < most; i++) {
+            buildRobot(longest);
+        }
+        for (int call = 0; call < CALLS && check.allRight(); call++) {
+            oneCall();
+            if (call % 16 == 0) {
+                compareAll();
+            }
+        }
+    }
+
+    private int size(int bound) {
+        return 1 + random.nextInt(bound);
+    }
+
+    /** A number mostly below the bound, seldom a wrong or an extreme one. */
+    private int number(int bound) {
+        int kind = random.nextInt(24);
+        return kind == 0 ? ODD[random.nextInt(ODD.length)] : kind == 1 ? bound : random.nextInt(bound);
+    }
+
+    private void buildLand() {
+        int walls = random.nextInt(w * h / 2 + 1);
+        for (int i = 0; i < walls; i++) {
+            wall(random.nextInt(w), random.nextInt(h), true);
+        }
+        for (int i = 0; i < w * h; i++) {
+            item(random.nextInt(w), random.nextInt(h));
+        }
+    }
+
+    private void buildRobot(int longest) {
+        int x = random.nextInt(w);
+        int y = random.nextInt(h);
+        int id = model.spawn(x, y);
+        same("spawn", world.spawn(x, y), id);
+        int words = random.nextInt(longest + 1);
+        for (int i = 0; i < words; i++) {
+            int word = someWord(words);
+            same("load", world.load(id, word) ? 1 : 0, model.load(id, word) ? 1 : 0);
+        }
+        if (random.nextInt(8) != 0) {
+            same("start", world.startRobot(id), model.startRobot(id));
+        }
+    }
+
+    private int someWord(int words) {
+        int kind = random.nextInt(60);
+        if (kind == 0) {
+            return random.nextInt();
+        }
+        int op = random.nextInt(25);
+        if (op == Words.END && random.nextInt(4) != 0) {
+            op = Words.SET;
+        }
+        int n = random.nextInt(12) - 2;
+        if (op >= Words.JUMP && op <= Words.JUMP_NOT_ZERO) {
+            n = random.nextInt(words + 1);
+        } else if (random.nextInt(10) == 0) {
+            n = random.nextInt(1 << 16);
+        }
+        return Words.word(op, random.nextInt(8), random.nextInt(8), n);
+    }
+
+    private void oneCall() {
+        int kind = random.nextInt(40);
+        if (kind < 14) {
+            same("tick", world.tick(), model.tick());
+        } else if (kind < 22) {
+            changeLand(kind);
+        } else if (kind < 28) {
+            changeRobots(kind);
+        } else if (kind < 38) {
+            askOne(kind);
+        } else if (kind == 38) {
+            int n = random.nextInt(10) == 0 ? ODD[random.nextInt(ODD.length)] : random.nextInt(60);
+            same("runTicks " + n, world.runTicks(n), model.runTicks(n));
+        } else {
+            changeTime();
+        }
+    }
+
+    private void changeLand(int kind) {
+        if (kind < 18) {
+            wall(number(w), number(h), random.nextInt(3) == 0);
+        } else {
+            int x = number(w);
+            int y = number(h);
+            int items = random.nextInt(20) == 0 ? 99 : 1;
+            for (int i = 0; i < items; i++) {
+                item(x, y);
+            }
+        }
+    }
+
+    private void wall(int x, int y, boolean on) {
+        same("setWall", world.setWall(x, y, on) ? 1 : 0, model.setWall(x, y, on) ? 1 : 0);
+    }
+
+    private void item(int x, int y) {
+        same("putItem", world.putItem(x, y) ? 1 : 0, model.putItem(x, y) ? 1 : 0);
+    }
+
+    private void changeRobots(int kind) {
+        int id = number(most);
+        if (kind == 22) {
+            same("kill", world.kill(id), model.kill(id));
+        } else if (kind == 23) {
+            int x = number(w);
+            int y = number(h);
+            same("spawn", world.spawn(x, y), model.spawn(x, y));
+        } else if (kind == 24) {
+            same("startRobot", world.startRobot(id), model.startRobot(id));
+        } else {
+            int word = someWord(10);
+            same("load", world.load(id, word) ? 1 : 0, model.load(id, word) ? 1 : 0);
+        }
+    }
+
+    private void askOne(int kind) {
+        int x = number(w);
+        int y = number(h);
+        int id = number(most);
+        int r = number(14);
+        if (kind < 31) {
+            int fromX = number(w);
+            int fromY = number(h);
+            same("pathLength", world.pathLength(fromX, fromY, x, y), model.pathLength(fromX, fromY, x, y));
+        } else if (kind < 34) {
+            same("at", world.at(x, y), model.at(x, y));
+        } else {
+            same("reg", world.reg(id, r), model.reg(id, r));
+            same("robotState", world.robotState(id), model.robotState(id));
+            same("robotX", world.robotX(id), model.robotX(id));
+            same("robotY", world.robotY(id), model.robotY(id));
+        }
+    }
+
+    private void changeTime() {
+        if (random.nextInt(12) == 0) {
+            world.init();
+            model.init();
+        } else {
+            int clock = number(1000);
+            world.setClock(clock);
+            model.setClock(clock);
+        }
+    }
+
+    private void compareAll() {
+        same("now", world.now(), model.now());
+        for (int id = -1; id <= most; id++) {
+            same("state of " + id, world.robotState(id), model.robotState(id));
+            same("x of " + id, world.robotX(id), model.robotX(id));
+            same("y of " + id, world.robotY(id), model.robotY(id));
+            for (int r = -1; r <= 14; r++) {
+                same("reg " + r + " of " + id, world.reg(id, r), model.reg(id, r));
+            }
+        }
+        for (int x = -1; x <= w; x++) {
+            for (int y = -1; y <= h; y++) {
+                same("at " + x + " " + y, world.at(x, y), model.at(x, y));
+            }
+        }
+    }
+
+    private void same(String what, int got, int due) {
+        check.same(run + what, got, due);
+    }
+}

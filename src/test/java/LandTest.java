@@ -6,8 +6,6 @@ public final class LandTest {
 
     public static void main(String[] args) {
         newWorldIsEmpty();
-        sidesAreBounded();
-        numbersAreBounded();
         initPutsAllBack();
         initPutsTheTurnBack();
         wallsComeAndGo();
@@ -31,65 +29,6 @@ public final class LandTest {
         CHECK.same("new state 1", world.robotState(1), 0);
         CHECK.same("new state 2", world.robotState(2), RobotWorld.NONE);
         CHECK.same("new tick", world.tick(), RobotWorld.NONE);
-    }
-
-    private static void sidesAreBounded() {
-        int[] given = {LEAST, -1, 0, 1, 2, 31, 32, 33, GREATEST};
-        int[] due = {1, 1, 1, 1, 2, 31, 32, 32, 32};
-        for (int i = 0; i < given.length; i++) {
-            RobotWorld wide = new RobotWorld(given[i], 1, 1, 1, 1);
-            CHECK.same("east edge of " + given[i], wide.at(due[i] - 1, 0), 0);
-            CHECK.same("behind the east edge of " + given[i], wide.at(due[i], 0), -2);
-            CHECK.same("south edge where h is 1", wide.at(0, 1), -2);
-            RobotWorld high = new RobotWorld(1, given[i], 1, 1, 1);
-            CHECK.same("south edge of " + given[i], high.at(0, due[i] - 1), 0);
-            CHECK.same("behind the south edge of " + given[i], high.at(0, due[i]), -2);
-            CHECK.same("east edge where w is 1", high.at(1, 0), -2);
-        }
-    }
-
-    private static void numbersAreBounded() {
-        int[] given = {LEAST, 0, 1, 7, 8, 9, 99, 100, 101, GREATEST};
-        int[] robots = {1, 1, 1, 7, 8, 8, 8, 8, 8, 8};
-        int[] words = {1, 1, 1, 7, 8, 9, 99, 100, 100, 100};
-        int[] mails = {1, 1, 1, 7, 8, 9, 16, 16, 16, 16};
-        for (int i = 0; i < given.length; i++) {
-            CHECK.same("most " + given[i], robotsOf(new RobotWorld(9, 1, given[i], 1, 1)), robots[i]);
-            CHECK.same("longest " + given[i], wordsOf(new RobotWorld(1, 1, 1, given[i], 1)), words[i]);
-            CHECK.same("mails " + given[i], mailsOf(new RobotWorld(1, 1, 1, 9, given[i])), mails[i]);
-        }
-        CHECK.same("mails 15", mailsOf(new RobotWorld(1, 1, 1, 9, 15)), 15);
-        CHECK.same("mails 17", mailsOf(new RobotWorld(1, 1, 1, 9, 17)), 16);
-    }
-
-    private static int robotsOf(RobotWorld world) {
-        int count = 0;
-        while (count < 9 && world.spawn(count, 0) == count) {
-            count++;
-        }
-        CHECK.same("state behind the last", world.robotState(count), RobotWorld.NONE);
-        CHECK.same("state of the last", world.robotState(count - 1), Words.NEW);
-        return count;
-    }
-
-    private static int wordsOf(RobotWorld world) {
-        int id = world.spawn(0, 0);
-        int count = 0;
-        while (count < 200 && world.load(id, count)) {
-            count++;
-        }
-        CHECK.same("length", world.reg(id, Words.LENGTH), count);
-        return count;
-    }
-
-    /** A robot that sends itself numbers until its box is full. */
-    private static int mailsOf(RobotWorld world) {
-        int id = Words.start(world, 0, 0, Words.word(Words.NUMBER, 0, 0),
-                Words.word(Words.SEND, 0, 1), Words.word(Words.JUMP_NOT_ZERO, 0, 0, 0));
-        world.runTicks(200);
-        CHECK.same("it went on behind the full box", world.robotState(id), Words.FAILED);
-        CHECK.same("sent into the full box", world.reg(id, 0), 0);
-        return world.reg(id, Words.MAILS);
     }
 
     private static void initPutsAllBack() {

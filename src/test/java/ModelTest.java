@@ -1,9 +1,16 @@
 import java.util.Random;
 
-/** Long random runs of calls, each answer held against SlowWorld's; the seeds are fixed. */
+/**
+ * Random runs of calls, each answer held against SlowWorld's; the seeds are fixed. Nothing is promised
+ * behind an object's 512th call, so a run ends there.
+ */
 public final class ModelTest {
-    private static final int RUNS = 3000;
+    private static final int RUNS = 30000;
     private static final int CALLS = 512;
+    /** What the building of a world may use of them, and a look at all of it in the end. */
+    private static final int LAND_CALLS = 80;
+    private static final int PROGRAM_CALLS = 160;
+    private static final int LOOK_CALLS = 180;
     private static final int[] ODD = {-1, -2, 8, 9, 32, 99, 100, 10001, 1 << 16, Integer.MAX_VALUE,
         Integer.MIN_VALUE, Integer.MIN_VALUE + 1, Integer.MAX_VALUE - 1};
 
@@ -14,6 +21,7 @@ public final class ModelTest {
     private int w;
     private int h;
     private int most;
+    private int calls;
     private String run;
 
     public static void main(String[] args) {
@@ -32,17 +40,20 @@ public final class ModelTest {
         int longest = random.nextInt(4) == 0 ? size(100) : 10 + random.nextInt(20);
         int mails = size(random.nextBoolean() ? 3 : 16);
         run = "seed " + seed + ": ";
+        calls = 0;
         world = new RobotWorld(w, h, most, longest, mails);
         model = new SlowWorld(w, h, most, longest, mails);
         buildLand();
         for (int i = 0; i < most; i++) {
-            buildRobot(longest);
+            buildRobot(Math.min(longest, PROGRAM_CALLS / most));
         }
-        for (int call = 0; call < CALLS && check.allRight(); call++) {
+        while (calls < CALLS - LOOK_CALLS && check.allRight()) {
             oneCall();
-            if (call % 16 == 0) {
-                compareAll();
-            }
+        }
+        compareAll();
+        while (calls + 2 <= CALLS && check.allRight()) {
+            same("now", world.now(), model.now());
+            same("tick", world.tick(), model.tick());
         }
     }
 
@@ -57,21 +68,21 @@ public final class ModelTest {
     }
 
     private void buildLand() {
-        int walls = random.nextInt(w * h / 2 + 1);
+        int walls = Math.min(random.nextInt(w * h / 2 + 1), LAND_CALLS / 2);
         for (int i = 0; i < walls; i++) {
             wall(random.nextInt(w), random.nextInt(h), true);
         }
-        for (int i = 0; i < w * h; i++) {
+        for (int i = 0; i < w * h && i < LAND_CALLS / 2; i++) {
             item(random.nextInt(w), random.nextInt(h));
         }
     }
 
-    private void buildRobot(int longest) {
+    private void buildRobot(int mostWords) {
         int x = random.nextInt(w);
         int y = random.nextInt(h);
         int id = model.spawn(x, y);
         same("spawn", world.spawn(x, y), id);
-        int words = random.nextInt(longest + 1);
+        int words = random.nextInt(mostWords + 1);
         for (int i = 0; i < words; i++) {
             int word = someWord(words);
             same("load", world.load(id, word) ? 1 : 0, model.load(id, word) ? 1 : 0);
@@ -124,7 +135,7 @@ public final class ModelTest {
             int x = number(w);
             int y = number(h);
             int items = random.nextInt(20) == 0 ? 99 : 1;
-            for (int i = 0; i < items; i++) {
+            for (int i = 0; i < items && calls < CALLS - LOOK_CALLS; i++) {
                 item(x, y);
             }
         }
@@ -174,6 +185,7 @@ public final class ModelTest {
     }
 
     private void changeTime() {
+        calls++;
         if (random.nextInt(12) == 0) {
             world.init();
             model.init();
@@ -186,22 +198,22 @@ public final class ModelTest {
 
     private void compareAll() {
         same("now", world.now(), model.now());
-        for (int id = -1; id <= most; id++) {
+        for (int id = 0; id < most; id++) {
             same("state of " + id, world.robotState(id), model.robotState(id));
             same("x of " + id, world.robotX(id), model.robotX(id));
             same("y of " + id, world.robotY(id), model.robotY(id));
-            for (int r = -1; r <= 14; r++) {
+            for (int r = 0; r <= 13; r++) {
                 same("reg " + r + " of " + id, world.reg(id, r), model.reg(id, r));
             }
         }
-        for (int x = -1; x <= w; x++) {
-            for (int y = -1; y <= h; y++) {
-                same("at " + x + " " + y, world.at(x, y), model.at(x, y));
-            }
+        for (int i = 0; i < w * h && calls < CALLS; i++) {
+            same("at " + i % w + " " + i / w, world.at(i % w, i / w), model.at(i % w, i / w));
         }
     }
 
+    /** Each is one call of the world, so that they can be counted here. */
     private void same(String what, int got, int due) {
+        calls++;
         check.same(run + what, got, due);
     }
 }

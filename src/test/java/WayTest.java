@@ -112,8 +112,8 @@ public final class WayTest {
     private static void longestWay() {
         RobotWorld world = new RobotWorld(32, 32, 1, 1, 1);
         for (int y = 1; y < 32; y += 2) {
-            for (int x = 0; x < 32; x++) {
-                world.setWall(x, y, x != (y % 4 == 1 ? 31 : 0));
+            for (int x = 0; x < 31; x++) {
+                world.setWall(y % 4 == 1 ? x : x + 1, y, true);
             }
         }
         CHECK.same("snake", world.pathLength(0, 0, 31, 30), 15 * 33);

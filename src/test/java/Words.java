@@ -9,6 +9,9 @@ final class Words {
 
     static final int ABSENT = 0, NEW = 1, READY = 2, ASLEEP = 3, WAITING = 4, DONE = 5, FAILED = 6;
 
+    /** How many words big() writes. */
+    static final int BIG = 10;
+
     private Words() {
     }
 
@@ -24,17 +27,48 @@ final class Words {
         return word(SET, r, 0, n);
     }
 
+    /** Words that bring any number of 32 bits into a register other than 7, which they use up. */
+    static int[] big(int register, int value) {
+        return new int[] {
+            set(register, value >> 16), set(7, 16384), word(TIMES, register, 7), set(7, 4),
+            word(TIMES, register, 7), set(7, value >> 1 & 0x7FFF), word(ADD, register, 7),
+            word(ADD, register, 7), set(7, value & 1), word(ADD, register, 7),
+        };
+    }
+
+    static int[] joined(int[]... programs) {
+        return java.util.Arrays.stream(programs).flatMapToInt(java.util.Arrays::stream).toArray();
+    }
+
+    static int[] program(int... words) {
+        return words;
+    }
+
     /** Makes a robot there with that program and starts it; answers its number. */
     static int start(RobotWorld world, int x, int y, int... program) {
+        int id = make(world, x, y, program);
+        if (world.startRobot(id) != 1) {
+            throw new IllegalStateException("a robot did not start");
+        }
+        return id;
+    }
+
+    /** Makes a robot there with that program, and leaves it NEW; answers its number. */
+    static int make(RobotWorld world, int x, int y, int... program) {
         int id = world.spawn(x, y);
         for (int word : program) {
             if (!world.load(id, word)) {
                 throw new IllegalStateException("a word was not taken");
             }
         }
-        if (world.startRobot(id) != 1) {
-            throw new IllegalStateException("a robot did not start");
-        }
         return id;
+    }
+
+    static void putItems(RobotWorld world, int x, int y, int items) {
+        for (int i = 0; i < items; i++) {
+            if (!world.putItem(x, y)) {
+                throw new IllegalStateException("an item was not taken");
+            }
+        }
     }
 }

@@ -1,4 +1,4 @@
-/** What each word does, and when a robot is FAILED ('Terms', for promises 8 and 14). */
+/** What each word does ('Terms', for promises 8 and 14). */
 public final class WordsTest {
     private static final int LEAST = Integer.MIN_VALUE;
     private static final int GREATEST = Integer.MAX_VALUE;
@@ -16,8 +16,6 @@ public final class WordsTest {
         layingOnFullSquare();
         asking();
         unusedPartsDoNotMatter();
-        failingWords();
-        failingPlaces();
         CHECK.end("WordsTest");
     }
 
@@ -76,30 +74,14 @@ public final class WordsTest {
     /** What register 1 is after the op on 1 and 2, which hold a and b; 2 has to stay. */
     private static int result(int op, int a, int b) {
         RobotWorld world = new RobotWorld(1, 1, 1, 100, 4);
-        world.spawn(0, 0);
-        int words = loadNumber(world, 1, a) + loadNumber(world, 2, b) + 1;
-        world.load(0, Words.word(op, 1, 2));
-        world.startRobot(0);
+        int words = 2 * Words.BIG + 1;
+        Words.start(world, 0, 0, Words.joined(Words.big(1, a), Words.big(2, b),
+                Words.program(Words.word(op, 1, 2))));
         CHECK.same("ticks", world.runTicks(words), words);
         CHECK.same("S of op " + op, world.reg(0, 2), b);
         CHECK.same("place", world.reg(0, Words.PLACE), words);
         CHECK.same("state", world.robotState(0), Words.READY);
         return world.reg(0, 1);
-    }
-
-    /** Loads words that bring a number of 32 bits into a register; answers how many. */
-    private static int loadNumber(RobotWorld world, int register, int value) {
-        int[] program = {
-            Words.set(register, value >> 16), Words.set(7, 16384),
-            Words.word(Words.TIMES, register, 7), Words.set(7, 4),
-            Words.word(Words.TIMES, register, 7), Words.set(7, value >> 1 & 0x7FFF),
-            Words.word(Words.ADD, register, 7), Words.word(Words.ADD, register, 7),
-            Words.set(7, value & 1), Words.word(Words.ADD, register, 7),
-        };
-        for (int word : program) {
-            world.load(0, word);
-        }
-        return program.length;
     }
 
     private static void jumps() {
@@ -261,71 +243,5 @@ public final class WordsTest {
         CHECK.same("copy with n", world.reg(0, 1), 9);
         CHECK.same("set with s", world.reg(0, 3), 8);
         CHECK.same("end with all", world.robotState(0), Words.DONE);
-    }
-
-    private static void failingWords() {
-        for (int op = 0; op <= 255; op++) {
-            boolean known = op <= 24;
-            RobotWorld world = failing(Words.word(op, 2, 3));
-            CHECK.same("op " + op, world.robotState(0) == Words.FAILED ? 1 : 0, known ? 0 : 1);
-            if (!known) {
-                nothingChanged(world);
-            }
-        }
-        for (int op = 0; op <= 24; op++) {
-            for (int high = 8; high <= 15; high++) {
-                nothingChanged(failing(Words.word(op, high, 3)));
-                nothingChanged(failing(Words.word(op, 2, high)));
-            }
-        }
-        nothingChanged(failing(Words.word(Words.DIVIDE, 2, 7)));
-        nothingChanged(failing(Words.word(Words.REST, 2, 7)));
-        nothingChanged(failing(Words.word(Words.DIVIDE, 7, 7)));
-        nothingChanged(failing(-1));
-    }
-
-    /** Register 2 holds 2 and 3 holds 1 when the word comes, in the third tick. */
-    private static RobotWorld failing(int word) {
-        RobotWorld world = new RobotWorld(3, 3, 1, 9, 1);
-        world.putItem(1, 1);
-        Words.start(world, 1, 1, Words.set(2, 2), Words.set(3, 1), word);
-        CHECK.same("ticks", world.runTicks(2), 2);
-        CHECK.same("it runs, FAILED or not", world.tick(), 0);
-        CHECK.same("now", world.now(), 3);
-        return world;
-    }
-
-    private static void nothingChanged(RobotWorld world) {
-        int[] due = {0, 0, 2, 1, 0, 0, 0, 0, 2, 0, 0, 3, 2, 0};
-        for (int r = 0; r < due.length; r++) {
-            CHECK.same("reg of a FAILED one " + r, world.reg(0, r), due[r]);
-        }
-        CHECK.same("FAILED", world.robotState(0), Words.FAILED);
-        CHECK.same("its square", world.at(1, 1), 257);
-        CHECK.same("does no more", world.tick(), RobotWorld.NONE);
-    }
-
-    private static void failingPlaces() {
-        int[] places = {3, 4, 99, 100, 101, 32767, -1, -32768};
-        for (int place : places) {
-            RobotWorld world = new RobotWorld(1, 1, 1, 100, 1);
-            int jump = Words.word(Words.JUMP, 0, 0, place);
-            Words.start(world, 0, 0, jump, jump, jump);
-            world.tick();
-            CHECK.same("not yet FAILED", world.robotState(0), Words.READY);
-            CHECK.same("the tick that fails", world.tick(), 0);
-            CHECK.same("FAILED", world.robotState(0), Words.FAILED);
-            CHECK.same("place", world.reg(0, Words.PLACE), place);
-            CHECK.same("words done", world.reg(0, Words.WORDS_DONE), 1);
-        }
-        RobotWorld empty = new RobotWorld(1, 1, 1, 100, 1);
-        Words.start(empty, 0, 0);
-        CHECK.same("no program", empty.tick(), 0);
-        CHECK.same("FAILED at once", empty.robotState(0), Words.FAILED);
-        RobotWorld full = new RobotWorld(1, 1, 1, 1, 1);
-        Words.start(full, 0, 0, Words.set(0, 1));
-        CHECK.same("longest program", full.runTicks(9), 2);
-        CHECK.same("FAILED behind it", full.robotState(0), Words.FAILED);
-        CHECK.same("its place", full.reg(0, Words.PLACE), 1);
     }
 }

@@ -2,7 +2,7 @@
 public final class FullTest {
     private static final int NONE = RobotWorld.NONE;
     private static final int TAKE = Words.word(Words.TAKE, 1, 0);
-    private static final int LAY = Words.word(Words.LAY, 2, 0);
+    private static final int LAY = Words.word(Words.LAY, 1, 0);
     private static final int END = Words.word(Words.END, 0, 0);
     private static final int[] FOR_EVER = {Words.word(Words.JUMP, 0, 0, 0)};
     private static final Check CHECK = new Check();
@@ -169,22 +169,36 @@ public final class FullTest {
         }
     }
 
-    /** A robot with so many items in its load, on a square with so many. */
-    private static RobotWorld carrying(int load, int items) {
-        RobotWorld world = single(20, 1);
-        Words.putItems(world, 0, 0, load);
-        Words.make(world, 0, 0);
+    /** A robot with so many items in its load and 7 in register 1, at the word, on so many items. */
+    private static RobotWorld carrying(int load, int items, int word) {
+        RobotWorld world = new RobotWorld(2, 1, 1, 20, 1);
+        Words.putItems(world, 1, 0, load);
+        Words.make(world, 1, 0);
         for (int i = 0; i < load; i++) {
             world.load(0, TAKE);
         }
         world.load(0, Words.set(1, 7));
-        world.load(0, Words.set(2, 7));
-        world.load(0, TAKE);
-        world.load(0, LAY);
+        world.load(0, word);
         world.startRobot(0);
-        world.runTicks(load + 2);
-        Words.putItems(world, 0, 0, items);
+        world.runTicks(load + 1);
+        Words.putItems(world, 1, 0, items);
         return world;
+    }
+
+    /** The same, and the word is done. */
+    private static RobotWorld handled(int load, int items, int word) {
+        RobotWorld world = carrying(load, items, word);
+        CHECK.same("its turn", world.tick(), 0);
+        CHECK.same("place", world.reg(0, Words.PLACE), load + 2);
+        CHECK.same("READY", world.robotState(0), Words.READY);
+        return world;
+    }
+
+    private static void shows(String what, RobotWorld world, int answer, int load, int items) {
+        CHECK.same(what + ", R", world.reg(0, 1), answer);
+        CHECK.same(what + ", load", world.reg(0, Words.LOAD), load);
+        CHECK.same(what + ", items", world.at(1, 0), 256 + items);
+        CHECK.same(what + ", the square beside", world.at(0, 0), 0);
     }
 
     private static void killOnFullSquare() {
@@ -193,20 +207,20 @@ public final class FullTest {
         int[][] cases = {{1, 0, 1}, {9, 0, 9}, {9, 89, 98}, {9, 90, 99}, {9, 91, 99}, {9, 98, 99},
             {9, 99, 99}, {1, 98, 99}, {1, 99, 99}, {0, 99, 99}};
         for (int[] one : cases) {
-            RobotWorld world = carrying(one[0], one[1]);
+            RobotWorld world = carrying(one[0], one[1], TAKE);
             String what = one[0] + " to " + one[1];
-            CHECK.same(what + ", before", world.at(0, 0), one[1] + 256);
+            CHECK.same(what + ", before", world.at(1, 0), one[1] + 256);
             CHECK.same(what, world.kill(0), one[0]);
-            CHECK.same(what + ", there", world.at(0, 0), one[2]);
-            CHECK.same(what + ", room for more", world.putItem(0, 0) ? 1 : 0, one[2] < 99 ? 1 : 0);
+            CHECK.same(what + ", there", world.at(1, 0), one[2]);
+            CHECK.same(what + ", room for more", world.putItem(1, 0) ? 1 : 0, one[2] < 99 ? 1 : 0);
         }
     }
 
     private static void killWithEmptyLoad() {
         CHECK.about("Promise 10", "A ROBOT goes");
-        RobotWorld world = carrying(0, 5);
+        RobotWorld world = carrying(0, 5, TAKE);
         CHECK.same("none was carried", world.kill(0), 0);
-        CHECK.same("items there", world.at(0, 0), 5);
+        CHECK.same("items there", world.at(1, 0), 5);
         CHECK.same("state", world.robotState(0), Words.ABSENT);
         CHECK.same("it runs no more", world.runTicks(5), 0);
         RobotWorld fresh = single(1, 1);
@@ -218,83 +232,37 @@ public final class FullTest {
     private static void takeFromEmptySquare() {
         CHECK.about("Word 15", "0, if there is none");
         for (int load = 0; load <= 8; load++) {
-            RobotWorld world = carrying(load, 0);
-            CHECK.same("its turn", world.tick(), 0);
-            CHECK.same("R, load " + load, world.reg(0, 1), 0);
-            CHECK.same("load", world.reg(0, Words.LOAD), load);
-            CHECK.same("items", world.at(0, 0), 256);
-            CHECK.same("place", world.reg(0, Words.PLACE), load + 3);
+            shows("none", handled(load, 0, TAKE), 0, load, 0);
+            shows("the last one", handled(load, 1, TAKE), 1, load + 1, 0);
         }
-        RobotWorld last = carrying(0, 1);
-        last.tick();
-        CHECK.same("the last one, R", last.reg(0, 1), 1);
-        CHECK.same("the last one, load", last.reg(0, Words.LOAD), 1);
-        CHECK.same("the last one, items", last.at(0, 0), 256);
     }
 
     private static void takeWithFullLoad() {
         CHECK.about("Word 15", "or the LOAD is 9");
-        int[] counts = {0, 1, 99};
+        int[] counts = {1, 2, 99};
         for (int items : counts) {
-            RobotWorld world = carrying(9, items);
-            CHECK.same("its turn", world.tick(), 0);
-            CHECK.same("R with 9", world.reg(0, 1), 0);
-            CHECK.same("load", world.reg(0, Words.LOAD), 9);
-            CHECK.same("items", world.at(0, 0), 256 + items);
-            CHECK.same("place", world.reg(0, Words.PLACE), 12);
+            shows("with 9", handled(9, items, TAKE), 0, 9, items);
+            shows("with 8", handled(8, items, TAKE), 1, 9, items - 1);
         }
-        RobotWorld eight = carrying(8, 99);
-        eight.tick();
-        CHECK.same("R with 8", eight.reg(0, 1), 1);
-        CHECK.same("the ninth", eight.reg(0, Words.LOAD), 9);
-        CHECK.same("items left", eight.at(0, 0), 256 + 98);
-    }
-
-    /** Like carrying, but the robot has come to LAY without taking. */
-    private static RobotWorld aboutToLay(int load, int items) {
-        RobotWorld world = single(20, 1);
-        Words.putItems(world, 0, 0, load);
-        Words.make(world, 0, 0);
-        for (int i = 0; i < load; i++) {
-            world.load(0, TAKE);
-        }
-        world.load(0, Words.set(2, 7));
-        world.load(0, LAY);
-        world.startRobot(0);
-        world.runTicks(load + 1);
-        Words.putItems(world, 0, 0, items);
-        CHECK.same("its turn", world.tick(), 0);
-        CHECK.same("place", world.reg(0, Words.PLACE), load + 2);
-        return world;
+        shows("with 9 where none is", handled(9, 0, TAKE), 0, 9, 0);
     }
 
     private static void layOfEmptyLoad() {
         CHECK.about("Word 16", "0 if it has none");
-        int[] counts = {0, 1, 98, 99};
+        int[] counts = {0, 1, 98};
         for (int items : counts) {
-            RobotWorld world = aboutToLay(0, items);
-            CHECK.same("R", world.reg(0, 2), 0);
-            CHECK.same("load", world.reg(0, Words.LOAD), 0);
-            CHECK.same("items", world.at(0, 0), 256 + items);
+            shows("with none", handled(0, items, LAY), 0, 0, items);
+            shows("with one", handled(1, items, LAY), 1, 0, items + 1);
         }
-        RobotWorld last = aboutToLay(1, 0);
-        CHECK.same("the last one, R", last.reg(0, 2), 1);
-        CHECK.same("the last one, load", last.reg(0, Words.LOAD), 0);
-        CHECK.same("the last one, items", last.at(0, 0), 257);
+        shows("with none where 99 are", handled(0, 99, LAY), 0, 0, 99);
     }
 
     private static void layOnFullSquare() {
         CHECK.about("Word 16", "or there are 99");
         for (int load = 1; load <= 9; load++) {
-            RobotWorld world = aboutToLay(load, 99);
-            CHECK.same("R", world.reg(0, 2), 0);
-            CHECK.same("load", world.reg(0, Words.LOAD), load);
-            CHECK.same("items", world.at(0, 0), 256 + 99);
+            shows("on 99", handled(load, 99, LAY), 0, load, 99);
+            shows("on 98", handled(load, 98, LAY), 1, load - 1, 99);
         }
-        RobotWorld room = aboutToLay(9, 98);
-        CHECK.same("room for one, R", room.reg(0, 2), 1);
-        CHECK.same("room for one, load", room.reg(0, Words.LOAD), 8);
-        CHECK.same("room for one, items", room.at(0, 0), 256 + 99);
     }
 
     /** Robot 0 sends the numbers 1, 2, 3 and so on to robot 1, counts in 3, and stops when refused. */
@@ -550,6 +518,7 @@ public final class FullTest {
         Words.start(world, 0, 1, Words.word(Words.RECEIVE, 0, 0));
         world.runTicks(8);
         world.setClock(-1);
+        CHECK.same("way round the wall", world.pathLength(0, 0, 2, 0), 4);
         world.init();
         CHECK.alike("all is shown as at first", Twins.shown(world),
                 Twins.shown(new RobotWorld(3, 2, 3, 4, 2)));

@@ -10,17 +10,23 @@ public final class ModelTest {
     /** What the building of a world may use of them, and a look at all of it in the end. */
     private static final int LAND_CALLS = 80;
     private static final int PROGRAM_CALLS = 160;
-    private static final int LOOK_CALLS = 180;
+    private static final int LOOK_CALLS = 200;
+    /** A robot that is made in the middle of a run has a short program, so that calls are left. */
+    private static final int LATE_WORDS = 12;
     private static final int[] ODD = {-1, -2, 8, 9, 32, 99, 100, 10001, 1 << 16, Integer.MAX_VALUE,
         Integer.MIN_VALUE, Integer.MIN_VALUE + 1, Integer.MAX_VALUE - 1};
 
+    private static final int JUMP_BACK = Words.word(Words.JUMP, 0, 0, 0);
+
     private final Check check = new Check();
+    private final Meetings meetings = new Meetings();
     private Random random;
     private RobotWorld world;
     private SlowWorld model;
     private int w;
     private int h;
     private int most;
+    private int longest;
     private int calls;
     private String run;
 
@@ -29,6 +35,7 @@ public final class ModelTest {
         for (int seed = 0; seed < RUNS && test.check.allRight(); seed++) {
             test.oneRun(seed);
         }
+        test.meetings.end(test.check);
         test.check.end("ModelTest");
     }
 
@@ -37,10 +44,11 @@ public final class ModelTest {
         w = seed % 50 == 0 ? size(32) : size(6);
         h = seed % 50 == 0 ? size(32) : size(5);
         most = size(8);
-        int longest = random.nextInt(4) == 0 ? size(100) : 10 + random.nextInt(20);
+        longest = random.nextInt(4) == 0 ? size(100) : 10 + random.nextInt(20);
         int mails = size(random.nextBoolean() ? 3 : 16);
         run = "seed " + seed + ": ";
         calls = 0;
+        meetings.newRun();
         world = new RobotWorld(w, h, most, longest, mails);
         model = new SlowWorld(w, h, most, longest, mails);
         buildLand();
@@ -80,16 +88,34 @@ public final class ModelTest {
     private void buildRobot(int mostWords) {
         int x = random.nextInt(w);
         int y = random.nextInt(h);
-        int id = model.spawn(x, y);
-        same("spawn", world.spawn(x, y), id);
+        int id = spawn(x, y);
         int words = random.nextInt(mostWords + 1);
+        int before = 0;
         for (int i = 0; i < words; i++) {
-            int word = someWord(words);
-            same("load", world.load(id, word) ? 1 : 0, model.load(id, word) ? 1 : 0);
+            int word = i == words - 1 && random.nextInt(4) != 0 ? JUMP_BACK : someWord(words);
+            if (random.nextInt(4) != 0) {
+                word = followed(before, word);
+            }
+            load(id, word);
+            before = word;
         }
         if (random.nextInt(8) != 0) {
             same("start", world.startRobot(id), model.startRobot(id));
         }
+    }
+
+    private void load(int id, int word) {
+        same("load", world.load(id, word) ? 1 : 0, model.load(id, word) ? 1 : 0);
+    }
+
+    /** Behind a word that sets a register to a small number, often one that has a use for such. */
+    private int followed(int before, int word) {
+        int n = before >> 16;
+        if ((before & 255) != Words.SET || n < 0 || n > 12) {
+            return word;
+        }
+        int op = random.nextBoolean() ? Words.SLEEP : Words.SEND;
+        return Words.word(op, before >> 8 & 7, random.nextInt(8));
     }
 
     private int someWord(int words) {
@@ -108,6 +134,17 @@ public final class ModelTest {
             n = random.nextInt(1 << 16);
         }
         return Words.word(op, random.nextInt(8), random.nextInt(8), n);
+    }
+
+    private int spawn(int x, int y) {
+        int id = model.spawn(x, y);
+        same("spawn", world.spawn(x, y), id);
+        meetings.spawned(id);
+        return id;
+    }
+
+    private void buildLateRobot() {
+        buildRobot(Math.min(longest, LATE_WORDS));
     }
 
     private void oneCall() {
@@ -129,8 +166,10 @@ public final class ModelTest {
     }
 
     private void changeLand(int kind) {
-        if (kind < 18) {
+        if (kind < 16) {
             wall(number(w), number(h), random.nextInt(3) == 0);
+        } else if (kind < 18) {
+            wallBetweenQuestions();
         } else {
             int x = number(w);
             int y = number(h);
@@ -139,6 +178,22 @@ public final class ModelTest {
                 item(x, y);
             }
         }
+    }
+
+    private void wallBetweenQuestions() {
+        int fromX = random.nextInt(w);
+        int fromY = random.nextInt(h);
+        int x = random.nextInt(w);
+        int y = random.nextInt(h);
+        meetings.askedBefore(way(fromX, fromY, x, y));
+        wall(number(w), number(h), random.nextInt(3) == 0);
+        meetings.askedBehind(way(fromX, fromY, x, y));
+    }
+
+    private int way(int fromX, int fromY, int x, int y) {
+        int due = model.pathLength(fromX, fromY, x, y);
+        same("pathLength", world.pathLength(fromX, fromY, x, y), due);
+        return due;
     }
 
     private void wall(int x, int y, boolean on) {
@@ -152,16 +207,17 @@ public final class ModelTest {
     private void changeRobots(int kind) {
         int id = number(most);
         if (kind == 22) {
+            meetings.killed(id, model.robotState(id));
             same("kill", world.kill(id), model.kill(id));
+            if (random.nextBoolean()) {
+                buildLateRobot();
+            }
         } else if (kind == 23) {
-            int x = number(w);
-            int y = number(h);
-            same("spawn", world.spawn(x, y), model.spawn(x, y));
+            spawn(number(w), number(h));
         } else if (kind == 24) {
             same("startRobot", world.startRobot(id), model.startRobot(id));
         } else {
-            int word = someWord(10);
-            same("load", world.load(id, word) ? 1 : 0, model.load(id, word) ? 1 : 0);
+            load(id, someWord(10));
         }
     }
 
@@ -171,9 +227,7 @@ public final class ModelTest {
         int id = number(most);
         int r = number(14);
         if (kind < 31) {
-            int fromX = number(w);
-            int fromY = number(h);
-            same("pathLength", world.pathLength(fromX, fromY, x, y), model.pathLength(fromX, fromY, x, y));
+            way(number(w), number(h), x, y);
         } else if (kind < 34) {
             same("at", world.at(x, y), model.at(x, y));
         } else {
@@ -185,14 +239,26 @@ public final class ModelTest {
     }
 
     private void changeTime() {
-        calls++;
         if (random.nextInt(12) == 0) {
-            world.init();
-            model.init();
+            beginAnew();
         } else {
+            meetings.clockSetWith(model);
             int clock = number(1000);
+            calls++;
             world.setClock(clock);
             model.setClock(clock);
+        }
+    }
+
+    private void beginAnew() {
+        meetings.initWith(model);
+        calls++;
+        world.init();
+        model.init();
+        for (int i = 0; i < most && calls < CALLS - LOOK_CALLS; i++) {
+            wall(random.nextInt(w), random.nextInt(h), true);
+            item(random.nextInt(w), random.nextInt(h));
+            buildLateRobot();
         }
     }
 

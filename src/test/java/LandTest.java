@@ -17,6 +17,7 @@ public final class LandTest {
     }
 
     private static void newWorldIsEmpty() {
+        CHECK.about("Promise 1", "An empty world, CLOCK 0.");
         RobotWorld world = new RobotWorld(3, 2, 2, 4, 2);
         CHECK.same("new now", world.now(), 0);
         for (int y = -1; y <= 2; y++) {
@@ -32,6 +33,7 @@ public final class LandTest {
     }
 
     private static void initPutsAllBack() {
+        CHECK.about("Promise 2", "All as at first.");
         RobotWorld world = new RobotWorld(3, 2, 2, 4, 2);
         world.setWall(0, 0, true);
         world.putItem(1, 1);
@@ -57,6 +59,7 @@ public final class LandTest {
     }
 
     private static void initPutsTheTurnBack() {
+        CHECK.about("Promise 2", "All as at first.");
         RobotWorld world = new RobotWorld(3, 1, 3, 4, 2);
         int[] forEver = {Words.word(Words.JUMP, 0, 0, 0)};
         for (int x = 0; x < 3; x++) {
@@ -72,6 +75,7 @@ public final class LandTest {
     }
 
     private static void wallsComeAndGo() {
+        CHECK.about("Promise 3", "A WALL comes (its ITEMS go), or goes: whether.");
         RobotWorld world = new RobotWorld(2, 2, 1, 1, 1);
         world.putItem(1, 0);
         CHECK.yes("no wall goes", world.setWall(1, 0, false));
@@ -86,6 +90,7 @@ public final class LandTest {
     }
 
     private static void noWallOutsideOrOnRobot() {
+        CHECK.about("Promise 3", "Not: outside, or a ROBOT is there.");
         RobotWorld world = new RobotWorld(2, 3, 1, 1, 1);
         int[][] outside = {{-1, 0}, {0, -1}, {2, 0}, {0, 3}, {2, 2}, {GREATEST, 0}, {0, LEAST}};
         for (int[] square : outside) {
@@ -103,6 +108,7 @@ public final class LandTest {
     }
 
     private static void itemsUpToNinetyNine() {
+        CHECK.about("Terms", "A square is a WALL, or has ITEMS (0 .. 99) and perhaps a ROBOT.");
         RobotWorld world = new RobotWorld(2, 1, 1, 1, 1);
         world.spawn(1, 0);
         for (int i = 1; i <= 99; i++) {
@@ -114,6 +120,7 @@ public final class LandTest {
     }
 
     private static void noItemOutsideOrOnWall() {
+        CHECK.about("Promise 4", "Not: outside, a WALL, or 99.");
         RobotWorld world = new RobotWorld(2, 3, 1, 1, 1);
         int[][] outside = {{-1, 0}, {0, -1}, {2, 0}, {0, 3}, {GREATEST, GREATEST}, {LEAST, 0}};
         for (int[] square : outside) {
@@ -125,6 +132,8 @@ public final class LandTest {
     }
 
     private static void squaresShowRobots() {
+        CHECK.about("Promise 15", "A square: -2 outside, -1 a WALL, else its ITEMS, and 256 "
+                + "times a ROBOT'S number and 1.");
         RobotWorld world = new RobotWorld(8, 1, 8, 1, 1);
         for (int x = 0; x < 8; x++) {
             world.spawn(x, 0);

@@ -18,6 +18,7 @@ public final class RobotTest {
     }
 
     private static void spawnTakesLeastFreeNumber() {
+        CHECK.about("Promise 5", "A NEW ROBOT: its number, the least that is free.");
         RobotWorld world = new RobotWorld(4, 2, 3, 1, 1);
         CHECK.same("first", world.spawn(3, 1), 0);
         CHECK.same("second", world.spawn(2, 1), 1);
@@ -34,6 +35,7 @@ public final class RobotTest {
     }
 
     private static void spawnRefuses() {
+        CHECK.about("Promise 5", "BAD: outside, or a WALL; TAKEN: a ROBOT is there; FULL.");
         RobotWorld world = new RobotWorld(3, 2, 1, 1, 1);
         world.setWall(2, 1, true);
         int[][] bad = {{-1, 0}, {0, -1}, {3, 0}, {0, 2}, {2, 1}, {Integer.MAX_VALUE, 0}};
@@ -50,6 +52,8 @@ public final class RobotTest {
     }
 
     private static void loadOnlyNewOnes() {
+        CHECK.about("Promise 6", "A word more of a NEW ROBOT'S program: whether (not if it is as "
+                + "long as it may be).");
         RobotWorld world = new RobotWorld(3, 1, 3, 2, 1);
         CHECK.no("no robot yet", world.load(0, 1));
         world.spawn(0, 0);
@@ -73,6 +77,7 @@ public final class RobotTest {
     }
 
     private static void startOnlyNewOnes() {
+        CHECK.about("Promise 7", "A NEW ROBOT is READY: 1. BAD: it is not NEW, or there is none.");
         RobotWorld world = new RobotWorld(3, 1, 3, 2, 1);
         CHECK.same("none there", world.startRobot(0), RobotWorld.BAD);
         for (int id : NO_NUMBERS) {
@@ -89,6 +94,7 @@ public final class RobotTest {
     }
 
     private static void killLaysDownLoad() {
+        CHECK.about("Promise 10", "A ROBOT goes; its LOAD comes to its square");
         RobotWorld world = new RobotWorld(2, 2, 3, 20, 1);
         CHECK.same("kill none", world.kill(0), RobotWorld.BAD);
         for (int id : NO_NUMBERS) {
@@ -109,6 +115,8 @@ public final class RobotTest {
     }
 
     private static void killLosesWhatIsTooMuch() {
+        CHECK.about("Promise 10", "(99 there at most, what is more is lost): how many ITEMS it "
+                + "had.");
         RobotWorld world = new RobotWorld(1, 1, 1, 20, 1);
         fill(world, 9);
         Words.start(world, 0, 0, Words.word(Words.TAKE, 0, 0), Words.word(Words.JUMP, 0, 0, 0));
@@ -126,6 +134,7 @@ public final class RobotTest {
     }
 
     private static void killedNumberStartsAfresh() {
+        CHECK.about("Promise 5", "A NEW ROBOT: its number, the least that is free.");
         RobotWorld world = new RobotWorld(2, 1, 1, 20, 4);
         world.putItem(0, 0);
         Words.start(world, 0, 0, Words.word(Words.TAKE, 7, 0), Words.word(Words.NUMBER, 0, 0),
@@ -151,6 +160,8 @@ public final class RobotTest {
     }
 
     private static void doneAndFailedOnesStay() {
+        CHECK.about("Terms", "a STATE: 0 there is none, 1 NEW, 2 READY, 3 ASLEEP, 4 WAITING, 5 "
+                + "DONE, 6 FAILED.");
         RobotWorld world = new RobotWorld(2, 1, 2, 1, 1);
         Words.start(world, 0, 0, Words.word(Words.END, 0, 0));
         Words.start(world, 1, 0, 255);
@@ -165,6 +176,8 @@ public final class RobotTest {
     }
 
     private static void toldOfRobot() {
+        CHECK.about("Promise 14", "A REGISTER (0 without one); from 8 on: 8 its PLACE, 9 its "
+                + "LOAD, 10 numbers in its BOX, 11 words of its program");
         RobotWorld world = new RobotWorld(5, 4, 2, 20, 4);
         world.spawn(0, 0);
         int id = Words.start(world, 4, 2, Words.set(0, 1), Words.set(1, -2), Words.set(2, 3),
@@ -187,6 +200,7 @@ public final class RobotTest {
     }
 
     private static void toldOfNone() {
+        CHECK.about("Promise 13", "Its STATE; NONE: no such number.");
         RobotWorld world = new RobotWorld(5, 4, 3, 20, 4);
         for (int id : NO_NUMBERS) {
             CHECK.same("x", world.robotX(id), RobotWorld.NONE);

@@ -26,6 +26,8 @@ public final class TickTest {
     }
 
     private static void robotsTakeTurns() {
+        CHECK.about("Terms", "then of READY ones the next one behind the number that ran last "
+                + "(at first that of the greatest number), round about, does one word");
         RobotWorld world = new RobotWorld(5, 1, 4, 9, 1);
         for (int x = 0; x < 4; x++) {
             Words.start(world, x, 0, FOR_EVER);
@@ -43,6 +45,7 @@ public final class TickTest {
     }
 
     private static void turnGoesByNumberThatRanLast() {
+        CHECK.about("Terms", "the next one behind the number that ran last");
         RobotWorld world = new RobotWorld(5, 1, 4, 9, 1);
         for (int x = 0; x < 4; x++) {
             world.spawn(x, 0);
@@ -63,6 +66,7 @@ public final class TickTest {
     }
 
     private static void runTicksCounts() {
+        CHECK.about("Promise 9", "TICKS, n (0 .. 10000): in how many of them one ran.");
         RobotWorld world = new RobotWorld(1, 1, 1, 9, 1);
         CHECK.same("none runs", world.runTicks(5), 0);
         CHECK.same("now", world.now(), 5);
@@ -79,6 +83,7 @@ public final class TickTest {
     }
 
     private static void runTicksRefuses() {
+        CHECK.about("Promise 9", "BAD.");
         RobotWorld world = new RobotWorld(1, 1, 1, 9, 1);
         Words.start(world, 0, 0, FOR_EVER);
         int[] bad = {-1, 10001, LEAST, GREATEST};
@@ -90,6 +95,7 @@ public final class TickTest {
     }
 
     private static void clockRunsOver() {
+        CHECK.about("Terms", "The CLOCK is a number of 32 bits that runs over.");
         RobotWorld world = new RobotWorld(1, 1, 1, 9, 1);
         int[] clocks = {5, -5, 0, LEAST, GREATEST};
         for (int clock : clocks) {
@@ -103,6 +109,7 @@ public final class TickTest {
     }
 
     private static void sleepLasts() {
+        CHECK.about("Word 19", "19: if R is above 0 it is ASLEEP for the next R ticks.");
         RobotWorld world = new RobotWorld(1, 1, 1, 9, 1);
         Words.start(world, 0, 0, Words.set(1, 3), Words.word(Words.SLEEP, 1, 0), Words.set(2, 9));
         world.tick();
@@ -121,6 +128,7 @@ public final class TickTest {
     }
 
     private static void sleepOfNothing() {
+        CHECK.about("Word 19", "if R is above 0");
         int[] none = {0, -1, -32768};
         for (int ticks : none) {
             RobotWorld world = new RobotWorld(1, 1, 1, 9, 1);
@@ -135,6 +143,7 @@ public final class TickTest {
     }
 
     private static void longSleep() {
+        CHECK.about("Promise 14", "13 the ticks for which it is ASLEEP still (0 if it is not)");
         RobotWorld world = new RobotWorld(1, 1, 1, 9, 1);
         Words.start(world, 0, 0, Words.set(1, 1), Words.set(2, -1), Words.set(3, -32768),
                 Words.word(Words.TIMES, 3, 3), Words.word(Words.ADD, 3, 3),
@@ -147,6 +156,7 @@ public final class TickTest {
     }
 
     private static void setClockLeavesSleep() {
+        CHECK.about("Promise 18", "The CLOCK becomes this (those ASLEEP sleep on as long).");
         int[] clocks = {0, 1000, -1000, GREATEST, LEAST};
         for (int clock : clocks) {
             RobotWorld world = new RobotWorld(1, 1, 1, 9, 1);
@@ -162,6 +172,7 @@ public final class TickTest {
     }
 
     private static void othersRunWhileOneSleeps() {
+        CHECK.about("Terms", "those ASLEEP whose ticks are over become READY");
         RobotWorld world = new RobotWorld(3, 1, 3, 9, 1);
         Words.start(world, 0, 0, Words.set(1, 2), Words.word(Words.SLEEP, 1, 0),
                 Words.word(Words.JUMP, 0, 0, 0));
@@ -173,6 +184,7 @@ public final class TickTest {
     }
 
     private static void sendAndReceive() {
+        CHECK.about("Words 17 and 18", "S comes to the BOX of ROBOT number R: R becomes 1");
         RobotWorld world = new RobotWorld(2, 1, 2, 9, 2);
         Words.start(world, 0, 0, Words.set(1, 1), Words.set(2, -77), Words.word(Words.SEND, 1, 2),
                 Words.word(Words.END, 0, 0));
@@ -190,6 +202,7 @@ public final class TickTest {
     }
 
     private static void mailKeepsOrder() {
+        CHECK.about("Word 18", "18: R becomes the number that came to its BOX first, which goes");
         RobotWorld world = new RobotWorld(1, 1, 1, 100, 3);
         world.spawn(0, 0);
         int[] sent = {5, 6, 7, 8};
@@ -217,6 +230,7 @@ public final class TickTest {
     }
 
     private static void waitingWakes() {
+        CHECK.about("Word 17", "A WAITING one is READY then.");
         RobotWorld world = new RobotWorld(2, 1, 2, 9, 2);
         Words.start(world, 0, 0, Words.set(4, 6), Words.word(Words.RECEIVE, 4, 0));
         Words.start(world, 1, 0, Words.set(1, 0), Words.set(2, 44), Words.set(3, 0),
@@ -239,6 +253,7 @@ public final class TickTest {
     }
 
     private static void sendToOneAsleep() {
+        CHECK.about("Word 17", "17: S comes to the BOX of ROBOT number R: R becomes 1");
         RobotWorld world = new RobotWorld(2, 1, 2, 9, 2);
         Words.start(world, 0, 0, Words.set(1, 9), Words.word(Words.SLEEP, 1, 0),
                 Words.word(Words.RECEIVE, 2, 0));
@@ -251,6 +266,8 @@ public final class TickTest {
     }
 
     private static void sendRefused() {
+        CHECK.about("Word 17", "0 if there is none such, or it is NEW, DONE or FAILED, or its "
+                + "BOX is full.");
         RobotWorld world = new RobotWorld(6, 1, 6, 20, 1);
         Words.start(world, 0, 0, Words.word(Words.END, 0, 0));
         Words.start(world, 1, 0, 255);
@@ -274,6 +291,7 @@ public final class TickTest {
     }
 
     private static void sendToItself() {
+        CHECK.about("Word 17", "S comes to the BOX of ROBOT number R: R becomes 1");
         RobotWorld world = new RobotWorld(2, 1, 2, 20, 2);
         world.spawn(0, 0);
         Words.start(world, 1, 0, Words.word(Words.NUMBER, 1, 0), Words.word(Words.SEND, 1, 1),

@@ -48,6 +48,7 @@ public final class WayTest {
     }
 
     private static void openGround() {
+        CHECK.about("Promise 16", "How many steps a shortest WAY has");
         RobotWorld world = new RobotWorld(32, 32, 1, 1, 1);
         CHECK.same("here", world.pathLength(5, 6, 5, 6), 0);
         CHECK.same("east", world.pathLength(5, 6, 6, 6), 1);
@@ -57,6 +58,7 @@ public final class WayTest {
     }
 
     private static void roundWalls() {
+        CHECK.about("Terms", "A WAY goes from square to square in DIRECTIONS, not over WALLS");
         RobotWorld world = drawn("..#..", ".##..", ".#.#.", ".....");
         CHECK.same("round", world.pathLength(0, 0, 3, 0), 11);
         CHECK.same("back", world.pathLength(3, 0, 0, 0), 11);
@@ -65,6 +67,8 @@ public final class WayTest {
     }
 
     private static void noWay() {
+        CHECK.about("Promise 16", "NONE: there is none, or one of the squares is outside or a "
+                + "WALL.");
         RobotWorld world = drawn("..#.", "##..", "....");
         CHECK.same("closed in", world.pathLength(0, 0, 3, 2), RobotWorld.NONE);
         CHECK.same("closed out", world.pathLength(3, 2, 0, 0), RobotWorld.NONE);
@@ -83,6 +87,7 @@ public final class WayTest {
     }
 
     private static void wallsChangeWays() {
+        CHECK.about("Promise 16", "How many steps a shortest WAY has");
         RobotWorld world = new RobotWorld(3, 3, 1, 1, 1);
         CHECK.same("straight", world.pathLength(0, 1, 2, 1), 2);
         world.setWall(1, 1, true);
@@ -100,6 +105,7 @@ public final class WayTest {
     }
 
     private static void robotsDoNotMatter() {
+        CHECK.about("Terms", "not over WALLS (ROBOTS do not matter)");
         RobotWorld world = new RobotWorld(3, 1, 3, 9, 1);
         world.putItem(1, 0);
         world.spawn(1, 0);
@@ -110,6 +116,7 @@ public final class WayTest {
 
     /** A way that turns at every second row, through the whole of the greatest world. */
     private static void longestWay() {
+        CHECK.about("Promise 16", "How many steps a shortest WAY has");
         RobotWorld world = new RobotWorld(32, 32, 1, 1, 1);
         for (int y = 1; y < 32; y += 2) {
             for (int x = 0; x < 31; x++) {
@@ -121,6 +128,8 @@ public final class WayTest {
     }
 
     private static void leastDirection() {
+        CHECK.about("Terms", "its first step is the least DIRECTION of those with which a "
+                + "shortest one begins");
         RobotWorld world = new RobotWorld(3, 3, 1, 9, 1);
         int[][] due = {{0, 0, 0}, {3, 4, 1}, {2, 2, 1}};
         for (int y = 0; y < 3; y++) {
@@ -131,6 +140,8 @@ public final class WayTest {
     }
 
     private static void firstStepIsOfShortestWay() {
+        CHECK.about("Word 20", "20: R becomes the DIRECTION of the first step of the way to the "
+                + "square (R, S)");
         RobotWorld world = drawn("....#", ".##.#", "...#.", ".#...");
         CHECK.same("round the wall", step(world, 2, 2, 2, 0), 3);
         CHECK.same("south", step(world, 2, 2, 4, 2), 2);
@@ -140,6 +151,7 @@ public final class WayTest {
     }
 
     private static void stepToNowhere() {
+        CHECK.about("Word 20", "4 if it is there, -1 if there is no way");
         RobotWorld world = drawn("..#", "...");
         CHECK.same("a wall", step(world, 1, 1, 2, 0), -1);
         CHECK.same("west outside", step(world, 1, 1, -1, 1), -1);
@@ -154,6 +166,8 @@ public final class WayTest {
     }
 
     private static void stepAfterWallChange() {
+        CHECK.about("Word 20", "R becomes the DIRECTION of the first step of the way to the "
+                + "square (R, S)");
         RobotWorld world = new RobotWorld(3, 2, 1, 9, 1);
         CHECK.same("straight", step(world, 0, 0, 2, 0), 1);
         world.setWall(1, 0, true);

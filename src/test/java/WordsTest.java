@@ -28,6 +28,7 @@ public final class WordsTest {
     }
 
     private static void end() {
+        CHECK.about("Word 0", "0: DONE.");
         RobotWorld world = ran(Words.word(Words.END, 0, 0));
         CHECK.same("state", world.robotState(0), Words.DONE);
         CHECK.same("place", world.reg(0, Words.PLACE), 1);
@@ -37,6 +38,7 @@ public final class WordsTest {
     }
 
     private static void setAndCopy() {
+        CHECK.about("Words 1 and 2", "1: R becomes n. 2: S.");
         int[] numbers = {0, 1, -1, 32767, -32768, 12345};
         for (int n : numbers) {
             RobotWorld world = ran(Words.set(7, n), Words.word(Words.COPY, 3, 7));
@@ -47,6 +49,8 @@ public final class WordsTest {
     }
 
     private static void calculation() {
+        CHECK.about("Words 3 to 7", "3 .. 5: R and S; R less S; R times S. 6: R / S towards 0; 7 "
+                + "the rest.");
         int[] values = {0, 1, -1, 2, -2, 7, -7, 100, 65536, LEAST, LEAST + 1, GREATEST};
         for (int a : values) {
             for (int b : values) {
@@ -62,6 +66,7 @@ public final class WordsTest {
     }
 
     private static void comparison() {
+        CHECK.about("Words 8 and 9", "8: 1, if R is below S, else 0. 9: if they are the same.");
         int[] values = {0, 1, -1, 2, LEAST, GREATEST};
         for (int a : values) {
             for (int b : values) {
@@ -85,6 +90,7 @@ public final class WordsTest {
     }
 
     private static void jumps() {
+        CHECK.about("Words 10 to 12", "10: the PLACE becomes n. 11: if R is 0. 12: if R is not 0.");
         int[] values = {0, 1, -1, 256};
         for (int value : values) {
             CHECK.same("jump", placeAfter(Words.JUMP, value, 3), 3);
@@ -105,6 +111,7 @@ public final class WordsTest {
     }
 
     private static void going() {
+        CHECK.about("Terms", "DIRECTIONS 0 north (y less 1), 1 east (x and 1), 2 south, 3 west.");
         int[] east = {0, 1, 0, -1};
         int[] south = {-1, 0, 1, 0};
         int[] wide = {0, 1, 2, 3, 4, 5, -1, -2, 32766, 256};
@@ -156,6 +163,7 @@ public final class WordsTest {
     }
 
     private static void looking() {
+        CHECK.about("Word 14", "14: S becomes what is there in that DIRECTION, as at() says.");
         RobotWorld world = new RobotWorld(3, 2, 2, 20, 1);
         world.setWall(2, 1, true);
         world.spawn(0, 1);
@@ -187,18 +195,22 @@ public final class WordsTest {
             world.load(0, Words.word(Words.LAY, 2, 0));
         }
         world.startRobot(0);
+        CHECK.about("Word 15", "15: an ITEM of its square comes to its LOAD: R becomes 1; 0, if there is "
+                + "none, or the LOAD is 9.");
         for (int i = 1; i <= 10; i++) {
             world.tick();
             CHECK.same("taken " + i, world.reg(0, 1), i <= 9 ? 1 : 0);
             CHECK.same("carried " + i, world.reg(0, Words.LOAD), Math.min(i, 9));
             CHECK.same("left " + i, world.at(0, 0), 256 + 10 - Math.min(i, 9));
         }
+        CHECK.about("Word 16", "16: an ITEM of its LOAD comes to its square: R becomes 1; 0 if it has none");
         for (int i = 1; i <= 10; i++) {
             world.tick();
             CHECK.same("laid " + i, world.reg(0, 2), i <= 9 ? 1 : 0);
             CHECK.same("carried still " + i, world.reg(0, Words.LOAD), Math.max(9 - i, 0));
             CHECK.same("there " + i, world.at(0, 0), 256 + 1 + Math.min(i, 9));
         }
+        CHECK.about("Terms", "a LOAD of items (0 .. 9)");
         RobotWorld bare = ran(Words.set(1, 5), Words.word(Words.TAKE, 1, 0));
         CHECK.same("none to take", bare.reg(0, 1), 0);
         CHECK.same("none taken", bare.reg(0, Words.LOAD), 0);
@@ -206,6 +218,8 @@ public final class WordsTest {
     }
 
     private static void layingOnFullSquare() {
+        CHECK.about("Word 16", "16: an ITEM of its LOAD comes to its square: R becomes 1; 0 if "
+                + "it has none, or there are 99.");
         RobotWorld world = new RobotWorld(1, 1, 1, 40, 1);
         world.putItem(0, 0);
         Words.start(world, 0, 0, Words.word(Words.TAKE, 1, 0), Words.set(2, 9),
@@ -221,6 +235,8 @@ public final class WordsTest {
     }
 
     private static void asking() {
+        CHECK.about("Words 21 to 24", "21: R becomes its x, S then its y. 22: R becomes its "
+                + "number. 23: the CLOCK. 24: its LOAD.");
         RobotWorld world = new RobotWorld(6, 5, 3, 20, 1);
         world.spawn(0, 0);
         world.spawn(1, 0);
@@ -237,6 +253,7 @@ public final class WordsTest {
     }
 
     private static void unusedPartsDoNotMatter() {
+        CHECK.about("Terms", "(R, S are registers r, s");
         int loud = Words.word(Words.COPY, 1, 2, -1);
         RobotWorld world = ran(Words.set(2, 9), loud, Words.word(Words.SET, 3, 7, 8),
                 Words.word(Words.END, 7, 7, -1));
